@@ -1006,7 +1006,8 @@ public final class ContactWays {
                     explore(router, contact.to, there, depth + 1, seen | 1 << contact.to);
                 } else if (there < router.bestThere || depth + 1 < router.best.rows) {
                     router.bestThere = there;
-                    router.best.copyFrom(router.trail);
+                    router.best.cut(0);
+                    router.best.appendFrom(router.trail);
                 }
             }
         }

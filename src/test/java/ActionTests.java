@@ -10,9 +10,11 @@ public final class ActionTests {
         missesToCome();
         missesSet();
         missesDroppedAndLate();
+        missesEight();
         finds();
         undo();
         undoLimits();
+        undoneSlots();
         check.close();
     }
 
@@ -183,36 +185,38 @@ public final class ActionTests {
         check.due("stands", x.bundle(0, 0), 4);
         x.passes(40);
         check.due("node", x.bundle(0, 1), 0);
-        ContactWays y = Check.planned("n3;c0 1 0 20 1 0;c1 2 0 60 1 0;c0 1 30 60 1 0;");
-        check.due("sends", y.sends(0, 2, 5, 10, 0), 10);
-        y.passes(1);
-        check.due("it lost the next one", y.misses(1), 1);
-        check.due("hops", Check.hops(y, 0), "0@0");
-        check.due("undo()", y.undo(), 2);
-        check.due("finds", y.finds(1), Check.STATE);
-        // a late one with a hop on its way
-        ContactWays z = Check.planned("n3;c0 1 0 20 1 0;c1 2 0 60 9 0;c0 1 30 60 1 0;");
+        // one that waits and becomes late is not planned, wherever it is by then
+        ContactWays z = Check.planned("n3;c0 1 0 20 1 0;c1 2 0 60 9 0;c1 2 70 80 9 0;");
         check.due("sends", z.sends(0, 2, 9, 10, 0), 10);
         z.passes(8);
         check.due("misses(1)", z.misses(1), 1);
+        check.due("hops", Check.hops(z, 0), "0@0");
+        check.due("why", z.bundle(0, 8), 1);
         check.due("finds(1)", z.finds(1), 0);
         check.due("hops", Check.hops(z, 0), "0@0 1@9");
-        check.due("a higher one", z.sends(1, 2, 20, 99, 2), 11);
-        check.due("is too late now", z.bundle(0, 8), 1);
+        check.due("misses(1)", z.misses(1), 1);
         z.passes(3);
         check.due("late", z.bundle(0, 0), 3);
         check.due("node", z.bundle(0, 1), 1);
+        check.due("finds(1)", z.finds(1), 0);
+        check.due("hops", z.bundle(0, 3), 0);
         check.due("misses(1)", z.misses(1), 0);
-        ContactWays w = Check.planned("n3;c0 1 0 30 1 0;c1 2 0 60 9 0;c0 1 30 60 1 0;");
-        check.due("sends", w.sends(0, 2, 20, 23, 0), 23);
-        w.passes(1);
-        check.due("misses(1)", w.misses(1), 1);
-        w.passes(18);
-        check.due("finds(1)", w.finds(1), 0);
-        check.due("misses(1)", w.misses(1), 1);
-        check.due("misses(0)", w.misses(0), 1);
-        check.due("hops", w.bundle(0, 3), 0);
-        check.due("why", w.bundle(0, 8), 0);
+    }
+
+    private static void missesEight() {
+        check.about("promise 9, a set of eight");
+        ContactWays x = Check.planned("c0 1 0 40 1 0;c0 1 50 66 1 0;");
+        int[] there = {2, 2, 2, 8, 6, 4, 14, 10};
+        for (int b = 0; b < 8; b++) {
+            check.due("sends", x.sends(0, 1, 2, 99, b % 3), there[b]);
+        }
+        check.due("misses(0)", x.misses(0), 0);
+        // 2 and 5 have priority 2; 1, 4 and 7 priority 1; 0, 3 and 6 priority 0
+        int[] order = {2, 5, 1, 4, 7, 0, 3, 6};
+        for (int k = 0; k < 8; k++) {
+            check.due("hops of " + order[k], Check.hops(x, order[k]), "1@" + (50 + 2 * k));
+        }
+        check.due("all wait", x.misses(1), 8);
     }
 
     private static void finds() {
@@ -330,5 +334,24 @@ public final class ActionTests {
         check.due("now", x.count(3), 12);
         check.due("undo()", x.undo(), Check.STATE);
         check.due("now", x.count(3), 12);
+    }
+
+    private static void undoneSlots() {
+        check.about("promise 11, what is undone leaves nothing behind");
+        ContactWays x = Check.planned("c0 1 0 9 1 4;");
+        check.due("sends", x.sends(0, 1, 3, 99, 1), 7);
+        check.due("undo()", x.undo(), 0);
+        check.due("sends", x.sends(1, 0, 3, 99, 1), Check.NONE);
+        check.due("hops", x.bundle(0, 3), 0);
+        check.due("too late", x.sends(0, 1, 3, 5, 1), Check.NONE);
+        x.passes(1);
+        check.due("undo()", x.undo(), 2);
+        check.due("why", x.bundle(1, 8), 1);
+        check.due("why", x.bundle(0, 8), 0);
+        check.due("drops(1)", x.drops(1), 1);
+        check.due("undo()", x.undo(), 2);
+        check.due("undo()", x.undo(), 1);
+        check.due("sends", x.sends(0, 1, 3, 7, 1), 7);
+        check.due("stands", x.bundle(1, 0), 1);
     }
 }

@@ -12,6 +12,8 @@ public final class BundleTests {
         priorities();
         hopsOnTheirWayStay();
         pushedOutOnItsWay();
+        neighbours();
+        sixHops();
         bundle();
         reasons();
         hop();
@@ -219,6 +221,48 @@ public final class BundleTests {
         y.passes(2);
         check.due("bundle(0, 1)", y.bundle(0, 1), 1);
         check.due("bundle(0, 2)", y.bundle(0, 2), Check.NONE);
+    }
+
+    private static void neighbours() {
+        check.about("promise 6, hops side by side push nothing out");
+        ContactWays x = Check.planned("n3;c0 1 0 20 1 0;c2 0 0 9 1 5;");
+        x.sends(0, 1, 3, 99, 0);
+        check.due("low", x.sends(0, 1, 3, 99, 0), 6);
+        x.drops(0);
+        check.due("behind it", x.sends(2, 1, 1, 99, 2), 7);
+        check.due("low's hops", Check.hops(x, 1), "0@3");
+        x.undo();
+        check.due("before it", x.sends(0, 1, 2, 99, 2), 2);
+        check.due("low's hops", Check.hops(x, 1), "0@3");
+        check.due("just before it", x.sends(0, 1, 1, 99, 2), 3);
+        check.due("low's hops", Check.hops(x, 1), "0@3");
+        check.due("on it", x.sends(0, 1, 1, 99, 2), 4);
+        check.due("low's hops", Check.hops(x, 1), "0@4");
+    }
+
+    /** A bundle on its way to 1 that must go back over 0 has five hops to come. */
+    private static void sixHops() {
+        check.about("promise 6, a hop on its way and five to come");
+        ContactWays x = Check.planned("n6;c0 1 0 9 1 0;c1 5 0 9 1 0;c1 0 0 90 1 0;c0 2 4 90 1 0;"
+                + "c2 3 0 90 1 0;c3 4 0 90 1 0;c4 5 0 90 1 0;");
+        check.due("sends", x.sends(0, 5, 2, 99, 0), 4);
+        x.passes(1);
+        check.due("misses(1)", x.misses(1), 0);
+        check.due("hops", Check.hops(x, 0), "0@0 2@2 3@4 4@6 5@8 6@10");
+        check.due("bundle(0, 0)", x.bundle(0, 0), 1);
+        check.due("bundle(0, 2)", x.bundle(0, 2), 12);
+        check.due("bundle(0, 3)", x.bundle(0, 3), 6);
+        check.due("hop(0, 5, 1)", x.hop(0, 5, 1), 10);
+        check.due("hop(0, 6, 1)", x.hop(0, 6, 1), Check.NONE);
+        x.keep(0);
+        x.passes(11);
+        check.due("all at once", x.bundle(0, 0), 2);
+        check.due("node", x.bundle(0, 1), 5);
+        x.back(0);
+        check.due("hops", Check.hops(x, 0), "0@0 2@2 3@4 4@6 5@8 6@10");
+        x.passes(10);
+        check.due("hops", Check.hops(x, 0), "6@10");
+        check.due("node", x.bundle(0, 1), 4);
     }
 
     private static void bundle() {

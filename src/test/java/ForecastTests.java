@@ -59,6 +59,7 @@ public final class ForecastTests {
         check.due("by 14", x.largest(0, 1, 0, 14), 18);
         check.due("by 15", x.largest(0, 1, 0, 15), 20);
         check.due("by 120", x.largest(0, 1, 0, 120), 20);
+        check.due("one by 108", Check.planned("c0 1 98 99 1 9;").largest(0, 1, 2, 108), 1);
         check.due("by 107", x.largest(1, 0, 0, 107), Check.NONE);
         check.due("by 108", x.largest(1, 0, 0, 108), 9);
         check.due("the same node", x.largest(1, 1, 0, 0), 20);
@@ -167,6 +168,11 @@ public final class ForecastTests {
         x.forget();
         x.sees(0, 1, 3);
         check.due("a tick", x.unseen(), 2 | 4);
+        x.forget();
+        x.sees(1, 3, 3);
+        check.due("from another node", x.unseen(), 1 | 2);
+        x.sees(2, 3, 121);
+        check.due("and one that is missed", x.unseen(), 1 | 2);
         check.due("contacts are not missed by it", x.contact(1, 6), 0);
         check.due("undo", x.count(8), 2);
         check.due("no contacts", new ContactWays().unseen(), 0);

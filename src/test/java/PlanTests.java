@@ -208,7 +208,15 @@ public final class PlanTests {
         check.due("back(1)", x.back(1), Check.STATE);
         check.due("undo()", x.undo(), Check.STATE);
         check.due("tick(1, 0)", x.tick(1, 0), Check.NONE);
+        x.sends(0, 1, 1, 50, 1);
+        x.drops(0);
+        Check.type(x, "c0 1 0 9 1 0;");
+        check.due("plan()", x.plan(), 1);
+        check.due("nothing is left of a dropped bundle", x.sends(0, 1, 2, 9, 0), 2);
+        check.due("its hops", Check.hops(x, 0), "0@0");
         check.due("plan() of nothing", x.plan(), 0);
+        check.due("nothing is left of its hops", x.sends(0, 1, 2, 9, 0), Check.NONE);
+        check.due("its hops", Check.hops(x, 0), "");
         check.due("count(1)", x.count(1), 0);
     }
 
