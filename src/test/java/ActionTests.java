@@ -341,6 +341,10 @@ public final class ActionTests {
         ContactWays x = Check.planned("c0 1 0 9 1 4;");
         check.due("sends", x.sends(0, 1, 3, 99, 1), 7);
         check.due("undo()", x.undo(), 0);
+        check.due("sends to where it is", x.sends(1, 1, 3, 99, 1), 0);
+        check.due("hops", x.bundle(0, 3), 0);
+        check.due("ticks", x.tick(0, 0), Check.NONE);
+        check.due("undo()", x.undo(), 0);
         check.due("sends", x.sends(1, 0, 3, 99, 1), Check.NONE);
         check.due("hops", x.bundle(0, 3), 0);
         check.due("too late", x.sends(0, 1, 3, 5, 1), Check.NONE);
