@@ -26,6 +26,7 @@ public final class ActionEdgeTests {
         promise9AtTheNodeFromWhichItLeads();
         promise9OtherContactsKeepTheirs();
         promise9GivesUpAllHopsToCome();
+        promise9PlannedWithAHopOnItsWay();
         promise9ExceptThoseDropped();
         promise9HighestPriorityFirst();
         promise9NumberOfThoseThatWait();
@@ -33,6 +34,7 @@ public final class ActionEdgeTests {
         promise10Contacts();
         promise10StateIfNotMissed();
         promise10AllThatWait();
+        promise10PlannedWithAHopOnItsWay();
         promise10ThoseThatWaitAlone();
         promise10HighestPriorityFirst();
         promise10NumberOfThoseThatWait();
@@ -46,6 +48,7 @@ public final class ActionEdgeTests {
         promise11UndoIsNoAction();
         promise11BehindAPlan();
         promise11AtTheLimitOfBundles();
+        promise11NothingIsLeftOfWhatIsUndone();
         check.close();
     }
 
@@ -360,6 +363,19 @@ public final class ActionEdgeTests {
         hops(x, 0, "");
     }
 
+    private static void promise9PlannedWithAHopOnItsWay() {
+        check.about("promise 9: planned 'from the node to which this leads, when the bundle is there'");
+        ContactWays x = Check.planned("n3;c0 1 0 5 1 4;c1 2 0 30 1 0;c1 2 0 30 1 1;c0 2 0 30 1 0;");
+        x.misses(3);
+        check.due("sends", x.sends(0, 2, 3, 99, 0), 10);
+        x.finds(3);
+        hops(x, 0, "0@0 1@7");
+        x.passes(1);
+        check.due("misses(1)", x.misses(1), 0);
+        hops(x, 0, "0@0 2@7");
+        check.due("bundle(0, 2)", x.bundle(0, 2), 11);
+    }
+
     private static void promise9ExceptThoseDropped() {
         check.about("promise 9: 'except those that are through, dropped or late, is planned'");
         ContactWays x = Check.planned("c0 1 0 9 1 0;c0 1 0 99 1 0;");
@@ -487,6 +503,25 @@ public final class ActionEdgeTests {
         hops(y, 1, "0@0");
     }
 
+    private static void promise10PlannedWithAHopOnItsWay() {
+        check.about("promise 10: planned 'from the node to which this leads, when the bundle is there'");
+        for (int now = 1; now <= 9; now++) {
+            ContactWays x = Check.planned("n3;c0 1 0 5 1 4;c1 2 0 30 1 0;c0 2 0 30 1 0;");
+            x.misses(2);
+            check.due("sends", x.sends(0, 2, 3, 99, 0), 10);
+            x.passes(1);
+            check.due("misses(1)", x.misses(1), 1);
+            hops(x, 0, "0@0");
+            if (now > 1) {
+                x.passes(now - 1);
+            }
+            check.due("finds(2) is of no use", x.finds(2), 1);
+            hops(x, 0, now < 7 ? "0@0" : "");
+            check.due("finds(1) at " + now, x.finds(1), 0);
+            hops(x, 0, now < 7 ? "0@0 1@7" : "1@" + now);
+        }
+    }
+
     private static void promise10ThoseThatWaitAlone() {
         check.about("promise 10: bundles that do not wait are not planned");
         ContactWays x = Check.planned("c0 1 0 90 1 0;c0 1 50 60 1 0;");
@@ -572,6 +607,8 @@ public final class ActionEdgeTests {
             for (int k = 0; k < 8; k++) {
                 x.undo();
             }
+            x.forget();
+            x.sees(0, 1, 121);
             return x;
         });
         used.refuse("undo()", Check.STATE, x -> x.undo());
@@ -621,22 +658,30 @@ public final class ActionEdgeTests {
         check.due("the ninth is not", y.count(2), 1);
     }
 
+    /** A full object on which some actions have been done. */
+    private static ContactWays acted(int actions) {
+        ContactWays x = Twins.full();
+        for (int k = 0; k < actions; k++) {
+            int answer = act(x, k);
+            check.due("action " + k + " is no error", answer >= 0 ? 0 : answer, 0);
+        }
+        return x;
+    }
+
     private static void promise11EachOfTheEight() {
         check.about("promise 11: 'Restores the state before the latest action'");
-        ContactWays x = Twins.full();
-        String[] states = new String[12];
-        int[] actions = new int[12];
-        for (int k = 0; k < 12; k++) {
-            states[k] = Check.state(x);
-            actions[k] = act(x, k);
-            check.due("action " + k + " is no error", actions[k] > 0 ? 1 : actions[k], actions[k] > 0 ? 1 : 0);
+        for (int k = 4; k < 12; k++) {
+            ContactWays x = acted(12);
+            for (int more = 7; more >= k - 4; more--) {
+                check.due("undo()", x.undo(), more);
+            }
+            check.due("the state before action " + k, present(x), present(acted(k)));
         }
-        for (int k = 11; k >= 4; k--) {
-            check.due("undo()", x.undo(), k - 4);
-            String want = states[k].replaceFirst("undo \\d", "undo " + (k - 4));
-            check.due("the state before action " + k, Check.state(x), want);
-        }
-        check.due("undo()", x.undo(), Check.STATE);
+    }
+
+    /** The state without how much can be undone. */
+    private static String present(ContactWays x) {
+        return Check.state(x).replaceFirst("undo \\d", "");
     }
 
     private static int act(ContactWays x, int k) {
@@ -724,11 +769,56 @@ public final class ActionEdgeTests {
 
     private static void promise11AtTheLimitOfBundles() {
         check.about("promise 11: all eight bundles are restored");
+        String before = present(Twins.full());
         ContactWays x = Twins.full();
-        String before = Check.state(x).replaceFirst("undo \\d", "");
         x.misses(1);
-        check.due("it changes much", Check.state(x).replaceFirst("undo \\d", "").equals(before) ? 1 : 0, 0);
+        check.due("it changes much", present(x).equals(before) ? 1 : 0, 0);
         check.due("undo()", x.undo(), 7);
-        check.due("state", Check.state(x).replaceFirst("undo \\d", ""), before);
+        check.due("state", present(x), before);
+    }
+
+    private static void promise11NothingIsLeftOfWhatIsUndone() {
+        check.about("promise 11: what a bundle had goes with it");
+        ContactWays x = Check.planned("c0 1 0 9 1 4;");
+        check.due("booked", x.sends(0, 1, 3, 99, 1), 7);
+        check.due("undo()", x.undo(), 0);
+        check.due("late", late(x), Check.NONE);
+        hops(x, 0, "");
+        stands(x, 0, LATE);
+        ContactWays y = Check.planned("c0 1 0 9 1 4;");
+        y.sends(1, 0, 3, 99, 1);
+        y.drops(0);
+        y.undo();
+        y.undo();
+        check.due("not dropped", y.sends(0, 1, 3, 99, 1), 7);
+        stands(y, 0, BOOKED);
+        check.about("promise 11: why a bundle waits is restored");
+        ContactWays z = Check.planned("c0 1 0 9 1 4;");
+        check.due("no way", z.sends(1, 0, 3, 99, 1), Check.NONE);
+        check.due("too late", z.sends(0, 1, 3, 6, 1), Check.NONE);
+        z.misses(0);
+        z.passes(1);
+        z.finds(0);
+        z.passes(1);
+        for (int more = 5; more >= 2; more--) {
+            check.due("undo()", z.undo(), more);
+            check.due("bundle(0, 8)", z.bundle(0, 8), 0);
+            check.due("bundle(1, 8)", z.bundle(1, 8), 1);
+        }
+        ContactWays v = Check.planned("c0 1 0 9 1 4;c0 1 30 40 1 0;");
+        v.misses(0);
+        v.misses(1);
+        check.due("no way", v.sends(0, 1, 3, 20, 1), Check.NONE);
+        check.due("bundle(0, 8)", v.bundle(0, 8), 0);
+        v.finds(1);
+        check.due("bundle(0, 8)", v.bundle(0, 8), 1);
+        check.due("undo()", v.undo(), 3);
+        check.due("bundle(0, 8)", v.bundle(0, 8), 0);
+    }
+
+    /** Sends a bundle that is late, in a later tick. */
+    private static int late(ContactWays x) {
+        x.passes(5);
+        return x.sends(0, 1, 3, 4, 1);
     }
 }

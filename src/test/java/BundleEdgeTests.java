@@ -24,6 +24,7 @@ public final class BundleEdgeTests {
         promise6FirstTickNotBeforeItIsThere();
         promise6ConsecutiveFreeTicks();
         promise6FreeTicksWithinTheWindow();
+        promise6NowOrLater();
         promise6MissedTicksAreNotFree();
         promise6NoHopOnItsWayTakesIt();
         promise6SameOrHigherPriority();
@@ -32,7 +33,9 @@ public final class BundleEdgeTests {
         promise6LexicographicallyFirst();
         promise6HopThatBeginsNowIsToCome();
         promise6PushedOutByOneTick();
+        promise6NeighboursPushNothingOut();
         promise6PushedOutGivesUpAllHopsToCome();
+        promise6PlannedWithAHopOnItsWay();
         promise6PushesOutLowerPrioritiesAlone();
         promise6HighestPriorityFirst();
         promise6LeastNumberFirst();
@@ -51,6 +54,7 @@ public final class BundleEdgeTests {
         promise13What();
         promise13BadComesBeforeNone();
         promise13TheOneOnItsWayFirst();
+        promise13SixHops();
         promise14Contacts();
         promise14NowTo99();
         promise14FirstAndLastTick();
@@ -391,6 +395,17 @@ public final class BundleEdgeTests {
         check.due("three are not", y.sends(0, 1, 3, 99, 0), Check.NONE);
     }
 
+    private static void promise6NowOrLater() {
+        check.about("promise 6: a tick is free if 'it is now or later'");
+        for (int now = 1; now <= 9; now++) {
+            ContactWays x = Check.planned("c0 1 0 10 1 0;");
+            x.passes(now);
+            check.due("one tick more than are left at " + now, x.sends(0, 1, 11 - now, 99, 0), Check.NONE);
+            check.due("all that are left at " + now, x.sends(0, 1, 10 - now, 99, 0), 10);
+            hops(x, 1, "0@" + now);
+        }
+    }
+
     private static void promise6MissedTicksAreNotFree() {
         check.about("promise 6: a tick is free if 'the contact is not missed'");
         ContactWays x = Check.planned(WIDE + "c0 1 9 20 1 0;");
@@ -512,6 +527,26 @@ public final class BundleEdgeTests {
         hops(v, 0, "1@0 0@4");
     }
 
+    private static void promise6NeighboursPushNothingOut() {
+        check.about("promise 6: hops side by side share no tick");
+        // 1 stands behind the place of 0, and would be planned to it if it were pushed out
+        ContactWays x = Check.planned("n3;c0 1 0 20 1 0;c2 0 0 9 1 3;c2 0 0 9 1 7;");
+        x.sends(0, 1, 5, 99, 0);
+        x.sends(0, 1, 3, 99, 0);
+        x.drops(0);
+        hops(x, 1, "0@5");
+        check.due("the tick before it", x.sends(2, 1, 1, 99, 2), 5);
+        hops(x, 1, "0@5");
+        x.undo();
+        x.misses(1);
+        check.due("the tick behind it", x.sends(2, 1, 1, 99, 2), 9);
+        hops(x, 1, "0@5");
+        check.due("ticks before it", x.sends(0, 1, 1, 99, 2), 1);
+        hops(x, 1, "0@5");
+        check.due("its first tick and those before it", x.sends(0, 1, 5, 99, 2), 6);
+        hops(x, 1, "0@9");
+    }
+
     private static void promise6PushedOutGivesUpAllHopsToCome() {
         check.about("promise 6: they 'give up all their hops to come'");
         ContactWays x = Check.planned("n3;c0 1 0 9 1 0;c1 2 0 9 1 0;");
@@ -529,6 +564,31 @@ public final class BundleEdgeTests {
         hops(y, 0, "0@0");
         stands(y, 0, WAITS);
         check.due("the first one goes on", y.tick(0, 1), 0);
+    }
+
+    private static void promise6PlannedWithAHopOnItsWay() {
+        check.about("promise 6: 'from the node to which this leads, when the bundle is there'");
+        String plan = "n4;c0 1 0 5 1 4;c1 2 0 30 1 0;c3 1 0 9 1 6;";
+        ContactWays x = Check.planned(plan);
+        check.due("low", x.sends(0, 2, 3, 99, 0), 10);
+        hops(x, 0, "0@0 1@7");
+        x.passes(1);
+        check.due("high takes tick 8", x.sends(3, 2, 1, 99, 1), 9);
+        hops(x, 0, "0@0 1@9");
+        check.due("bundle(0, 2)", x.bundle(0, 2), 12);
+        ContactWays y = Check.planned(plan);
+        check.due("low", y.sends(0, 2, 3, 11, 0), 10);
+        y.passes(1);
+        check.due("high takes tick 8", y.sends(3, 2, 1, 99, 1), 9);
+        hops(y, 0, "0@0");
+        stands(y, 0, WAITS);
+        check.due("tick 12 is too late", y.bundle(0, 8), 1);
+        check.due("it still is at", y.bundle(0, 1), 0);
+        ContactWays z = Check.planned(plan);
+        check.due("low", z.sends(0, 2, 3, 12, 0), 10);
+        z.passes(1);
+        check.due("high takes tick 8", z.sends(3, 2, 1, 99, 1), 9);
+        hops(z, 0, "0@0 1@9");
     }
 
     private static void promise6PushesOutLowerPrioritiesAlone() {
@@ -786,6 +846,29 @@ public final class BundleEdgeTests {
             hops(x, 0, due[now]);
             x.passes(1);
         }
+    }
+
+    private static void promise13SixHops() {
+        check.about("promise 13: a hop on its way and a way of five contacts are six hops");
+        ContactWays x = Check.planned("n6;c0 1 0 9 1 0;c1 5 0 9 1 0;c1 0 0 90 1 0;c0 2 4 90 1 0;"
+                + "c2 3 0 90 1 0;c3 4 0 90 1 0;c4 5 0 90 1 0;");
+        check.due("sends", x.sends(0, 5, 2, 99, 0), 4);
+        x.passes(1);
+        check.due("misses(1)", x.misses(1), 0);
+        hops(x, 0, "0@0 2@2 3@4 4@6 5@8 6@10");
+        check.due("bundle(0, 3)", x.bundle(0, 3), 6);
+        check.due("hop(0, 5, 0)", x.hop(0, 5, 0), 6);
+        check.due("hop(0, 5, 1)", x.hop(0, 5, 1), 10);
+        check.due("hop(0, 6, 0)", x.hop(0, 6, 0), Check.NONE);
+        check.due("tick(6, 11)", x.tick(6, 11), 0);
+        check.due("bundle(0, 2)", x.bundle(0, 2), 12);
+        x.keep(0);
+        x.passes(11);
+        stands(x, 0, THROUGH);
+        x.undo();
+        hops(x, 0, "0@0 2@2 3@4 4@6 5@8 6@10");
+        x.back(0);
+        hops(x, 0, "0@0 2@2 3@4 4@6 5@8 6@10");
     }
 
     private static void promise14Contacts() {

@@ -20,6 +20,7 @@ public final class ForecastEdgeTests {
         promise16SizeOne();
         promise16BothNodesTheSame();
         promise16Priorities();
+        promise16AlsoWithEightBundles();
         promise16ChangesNothing();
         promise17NoneThatIsNotMissed();
         promise17TheLeastOfSeveral();
@@ -241,6 +242,16 @@ public final class ForecastEdgeTests {
         }
     }
 
+    private static void promise16AlsoWithEightBundles() {
+        check.about("promise 16: 'such a bundle' would be in addition to all others, also to eight");
+        ContactWays x = Check.planned("c0 1 0 18 1 0;");
+        for (int b = 0; b < 8; b++) {
+            x.sends(0, 1, 2, 99, 1);
+        }
+        check.due("priority 1", x.largest(0, 1, 1, 99), 2);
+        check.due("priority 2", x.largest(0, 1, 2, 99), 18);
+    }
+
     private static void promise16ChangesNothing() {
         check.about("promise 16: 'Questions change nothing'");
         new Twins(check, Twins::busy).changesNothing("largest(0, 1, 2, 20)", x -> x.largest(0, 1, 2, 20));
@@ -422,6 +433,7 @@ public final class ForecastEdgeTests {
         check.due("unseen()", x.unseen(), 2);
         check.due("forget()", x.forget(), 6);
         check.due("count(6)", x.count(6), 0);
+        check.due("the text stays", x.count(7), 150);
         check.due("unseen()", x.unseen(), 1 | 2 | 8);
         check.due("state", Check.state(x), before);
         for (int k = 1; k <= 6; k++) {

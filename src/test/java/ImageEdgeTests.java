@@ -17,6 +17,8 @@ public final class ImageEdgeTests {
         promise22ImageStays();
         promise22NothingCanBeUndone();
         promise22RestoresWhatWasSavedAlone();
+        promise22WhyABundleWaits();
+        promise22NothingIsLeftOfLaterBundles();
         promise22BehindAPlan();
         promise23What();
         promise23LeastNumbers();
@@ -98,9 +100,9 @@ public final class ImageEdgeTests {
 
     private static void promise21LaterChangesLeaveIt() {
         check.about("promise 21: what comes later does not change the image");
+        String told = Check.state(Twins.full()).replaceFirst("undo \\d", "undo 0");
         ContactWays x = Twins.full();
         x.keep(0);
-        String told = Check.state(x).replaceFirst("undo \\d", "undo 0");
         x.drops(7);
         x.finds(2);
         x.misses(1);
@@ -109,10 +111,13 @@ public final class ImageEdgeTests {
         x.undo();
         check.due("back(0)", x.back(0), 8);
         check.due("state", Check.state(x), told);
-        x.misses(1);
-        x.passes(40);
-        check.due("back(0)", x.back(0), 8);
-        check.due("state", Check.state(x), told);
+        ContactWays y = Twins.full();
+        y.keep(1);
+        y.back(1);
+        y.misses(1);
+        y.passes(40);
+        check.due("back(1)", y.back(1), 8);
+        check.due("state behind two of them", Check.state(y), told);
     }
 
     private static void promise22Images() {
@@ -124,27 +129,30 @@ public final class ImageEdgeTests {
 
     private static void promise22StateIfNothingWasSaved() {
         check.about("promise 22: 'STATE if nothing was saved in it'");
-        Twins one = new Twins(check, () -> {
-            ContactWays x = Check.planned(WIDE);
-            x.sends(0, 1, 5, 99, 0);
-            x.keep(0);
-            x.passes(1);
-            return x;
-        });
-        one.refuse("back(1)", Check.STATE, x -> x.back(1));
-        Twins other = new Twins(check, () -> {
-            ContactWays x = Check.planned(WIDE);
-            x.sends(0, 1, 5, 99, 0);
-            x.keep(1);
-            x.passes(1);
-            return x;
-        });
-        other.refuse("back(0)", Check.STATE, x -> x.back(0));
+        new Twins(check, () -> keptIn(0)).refuse("back(1)", Check.STATE, x -> x.back(1));
+        new Twins(check, () -> keptIn(1)).refuse("back(0)", Check.STATE, x -> x.back(0));
+        Twins never = new Twins(check, () -> keptIn(2));
+        never.refuse("back(0)", Check.STATE, x -> x.back(0));
+        never.refuse("back(1)", Check.STATE, x -> x.back(1));
+    }
+
+    /** An object with bundles, a missed contact, an observation, a text, and at most one image. */
+    private static ContactWays keptIn(int image) {
+        ContactWays x = Check.planned(Twins.BUSY_PLAN);
+        x.sends(0, 2, 5, 99, 0);
+        x.keep(image);
+        x.sends(0, 1, 2, 1, 0);
+        x.misses(2);
+        x.passes(1);
+        x.sees(0, 1, 121);
+        Check.type(x, Twins.BUSY_TEXT);
+        return x;
     }
 
     private static void promise22BadComesBeforeState() {
         check.about("promise 22: BAD comes before STATE");
         new Twins(check, ContactWays::new).refuseOutside("back", 0, 1, (x, v) -> x.back(v));
+        new Twins(check, () -> keptIn(2)).refuseOutside("back", 0, 1, (x, v) -> x.back(v));
     }
 
     private static void promise22NumberOfBundles() {
@@ -204,6 +212,41 @@ public final class ImageEdgeTests {
         check.due("the text stays", x.count(7), 150);
         check.due("the other image stays", x.back(0), 5);
         check.due("plan()", x.plan(), 2);
+    }
+
+    private static void promise22WhyABundleWaits() {
+        check.about("promise 22: why a bundle waits is restored");
+        ContactWays x = Check.planned("c0 1 0 9 1 4;c0 1 30 40 1 0;");
+        x.misses(0);
+        x.misses(1);
+        check.due("no way", x.sends(0, 1, 3, 20, 1), Check.NONE);
+        x.keep(0);
+        x.finds(1);
+        check.due("too late", x.bundle(0, 8), 1);
+        x.keep(1);
+        check.due("back(0)", x.back(0), 1);
+        check.due("bundle(0, 8)", x.bundle(0, 8), 0);
+        check.due("back(1)", x.back(1), 1);
+        check.due("bundle(0, 8)", x.bundle(0, 8), 1);
+        x.finds(0);
+        check.due("booked", x.bundle(0, 8), Check.NONE);
+        check.due("back(0)", x.back(0), 1);
+        check.due("bundle(0, 8)", x.bundle(0, 8), 0);
+    }
+
+    private static void promise22NothingIsLeftOfLaterBundles() {
+        check.about("promise 22: what later bundles had goes with them");
+        ContactWays x = Check.planned(WIDE);
+        x.keep(0);
+        x.sends(0, 1, 5, 99, 2);
+        x.sends(0, 1, 5, 99, 2);
+        x.drops(1);
+        check.due("back(0)", x.back(0), 0);
+        check.due("tick(0, 0)", x.tick(0, 0), Check.NONE);
+        check.due("sends", x.sends(1, 0, 5, 99, 0), Check.NONE);
+        check.due("hops", x.bundle(0, 3), 0);
+        check.due("sends", x.sends(0, 1, 5, 99, 0), 5);
+        check.due("not dropped", x.bundle(1, 0), 1);
     }
 
     private static void promise22BehindAPlan() {

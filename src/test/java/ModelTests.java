@@ -71,7 +71,9 @@ public final class ModelTests {
         for (int i = 0; i < text.length() && calls.size() < MOST_CALLS; i++) {
             type(text.charAt(i));
         }
-        due("plan", x.plan(), model.plan());
+        if (calls.size() < MOST_CALLS) {
+            due("plan", x.plan(), model.plan());
+        }
     }
 
     private void type(int letter) {

@@ -641,6 +641,12 @@ public final class PlanEdgeTests {
             check.due("sends", x.sends(2, 2, 1, 1, 1), 0);
             check.due("hops", x.bundle(b, 3), 0);
         }
+        ContactWays z = Check.planned(ONE);
+        z.sends(1, 0, 1, 9, 1);
+        z.drops(0);
+        z.plan();
+        check.due("sends", z.sends(1, 0, 1, 9, 1), Check.NONE);
+        check.due("nothing is left of a dropped bundle", z.bundle(0, 0), 0);
         ContactWays y = Check.planned(Twins.BUSY_TEXT);
         check.due("it is as a new one", y.sends(2, 0, 1, 9, 1), 6);
         x.plan();

@@ -84,7 +84,7 @@ final class Twins {
     }
 
     private static String questions(ContactWays x) {
-        StringBuilder told = new StringBuilder(counts(x)).append(Check.state(x));
+        StringBuilder told = new StringBuilder(Check.state(x)).append(counts(x));
         int nodes = x.count(0);
         for (int node = 0; node < nodes; node++) {
             for (int goal = 0; goal < nodes; goal++) {
