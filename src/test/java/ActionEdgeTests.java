@@ -614,6 +614,7 @@ public final class ActionEdgeTests {
         used.refuse("undo()", Check.STATE, x -> x.undo());
         new Twins(check, () -> {
             ContactWays x = Twins.full();
+            x.keep(0);
             x.back(0);
             return x;
         }).refuse("undo() behind back()", Check.STATE, x -> x.undo());

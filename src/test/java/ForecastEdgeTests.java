@@ -392,6 +392,14 @@ public final class ForecastEdgeTests {
         full.refuse("a seventh", Check.FULL, y -> y.sees(0, 1, 6));
         full.refuse("a seventh that is not true", Check.FULL, y -> y.sees(1, 0, 6));
         full.refuse("a seventh of 121", Check.FULL, y -> y.sees(1, 0, 121));
+        Twins withRoomForText = new Twins(check, () -> {
+            ContactWays y = Twins.busy();
+            for (int k = 3; k <= 6; k++) {
+                y.sees(0, 1, 6);
+            }
+            return y;
+        });
+        withRoomForText.refuse("a seventh", Check.FULL, y -> y.sees(0, 1, 6));
     }
 
     private static void promise18BadComesBeforeFull() {

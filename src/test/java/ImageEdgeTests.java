@@ -142,6 +142,9 @@ public final class ImageEdgeTests {
         x.sends(0, 2, 5, 99, 0);
         x.keep(image);
         x.sends(0, 1, 2, 1, 0);
+        for (int b = 2; b < 7; b++) {
+            x.sends(2, 3, b, 99, 1);
+        }
         x.misses(2);
         x.passes(1);
         x.sees(0, 1, 121);
